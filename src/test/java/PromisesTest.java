@@ -13,6 +13,7 @@ public final class PromisesTest {
         weave();
         weaveLeavesOutSteps();
         mirror();
+        mirrorLeavesTheThird();
         scale();
         states();
         weight();
@@ -235,6 +236,39 @@ public final class PromisesTest {
             Due.due("mirror(" + a + ", 0)", x.mirror(a, 0), -1);
             Due.due("mirror(0, " + a + ")", x.mirror(0, a), -1);
             Due.due("mirror(" + a + ", " + a + ")", x.mirror(a, a), -1);
+        }
+    }
+
+    private static void mirrorLeavesTheThird() {
+        for (int a = 0; a < 3; a++) {
+            for (int b = 0; b < 3; b++) {
+                if (a != b) {
+                    mirrorLeavesTheThird(a, b);
+                }
+            }
+        }
+    }
+
+    private static void mirrorLeavesTheThird(int a, int b) {
+        WeightedWords x = new WeightedWords();
+        int third = 3 - a - b;
+        for (int c = 0; c < 3; c++) {
+            x.size(c, 4);
+            x.weave(c, 60 + c);
+        }
+        x.mirror(a, b);
+        WeightedWords y = new WeightedWords();
+        y.size(third, 4);
+        y.weave(third, 60 + third);
+        y.size(b, 4);
+        y.weave(b, 60 + b);
+        y.mirror(a, b);
+        Due.same("mirror(" + a + ", " + b + ") changes that alone",
+            Due.everything(x), Due.everything(y));
+        for (int q = 0; q < 4; q++) {
+            Due.due("start(" + q + ") of the third", x.mark(third, q, 0, 0), 60 + third + q);
+            Due.due("start(" + q + ") of b", x.mark(b, q, 0, 0), 60 + b + q);
+            Due.due("start(" + q + ") of a", x.mark(a, q, 0, 0), 60 + b + 3 - q);
         }
     }
 
@@ -505,11 +539,23 @@ public final class PromisesTest {
         Due.due("nothing is its own sum", x.isSum(1, 1, 1), 1);
         x.scale(2, 0, 2);
         Due.due("a and a make twice a", x.isSum(0, 0, 2), 1);
+        isSumLooksAtTheEmptyWord();
         for (int a : NOT_AUTOMATA) {
             Due.due("isSum(" + a + ", 0, 0)", x.isSum(a, 0, 0), -1);
             Due.due("isSum(0, " + a + ", 0)", x.isSum(0, a, 0), -1);
             Due.due("isSum(0, 0, " + a + ")", x.isSum(0, 0, a), -1);
         }
+    }
+
+    private static void isSumLooksAtTheEmptyWord() {
+        WeightedWords x = new WeightedWords();
+        for (int a = 0; a < 3; a++) {
+            x.mark(a, 0, 0, 1);
+            x.mark(a, 0, 1, 1);
+        }
+        Due.due("1 and 1 do not make 1 on the empty word", x.isSum(0, 1, 2), 0);
+        x.mark(2, 0, 1, 2);
+        Due.due("1 and 1 make 2 on the empty word", x.isSum(0, 1, 2), 1);
     }
 
     private static void refusalsComeInOrder() {
