@@ -1,6 +1,6 @@
 import java.util.List;
 
-/** Each promise in turn, with answers worked out by hand from the document. */
+/** Each promise in turn, with answers worked out from the document, apart from the program. */
 public final class PromisesTest {
     private static final int[] NOT_AUTOMATA =
         {-1, 3, 4, -3, 1 << 16, Integer.MIN_VALUE, Integer.MAX_VALUE};
