@@ -2,9 +2,6 @@ import java.util.List;
 
 /** Each promise in turn, with answers worked out from the document, apart from the program. */
 public final class PromisesTest {
-    private static final int[] NOT_AUTOMATA =
-        {-1, 3, 4, -3, 1 << 16, Integer.MIN_VALUE, Integer.MAX_VALUE};
-
     public static void main(String[] args) {
         newObject();
         size();
@@ -57,7 +54,7 @@ public final class PromisesTest {
         sizeClears(3);
         sizeClears(4);
         sizeClears(1);
-        for (int a : NOT_AUTOMATA) {
+        for (int a : Made.NOT_AUTOMATA) {
             Due.due("size(" + a + ", 2)", x.size(a, 2), -1);
         }
         for (int size : new int[] {0, 5, -1, Integer.MIN_VALUE, Integer.MAX_VALUE}) {
@@ -110,7 +107,7 @@ public final class PromisesTest {
         Due.due("-2 is 995", x.mark(1, 2, 1, 0), 995);
         Due.due("other state", x.mark(1, 1, 0, 0), 0);
         Due.due("other automaton", x.mark(2, 0, 0, 0), 0);
-        for (int a : NOT_AUTOMATA) {
+        for (int a : Made.NOT_AUTOMATA) {
             Due.due("mark(" + a + ", 0, 0, 1)", x.mark(a, 0, 0, 1), -1);
         }
         for (int q : new int[] {-1, 3, 4, Integer.MIN_VALUE, Integer.MAX_VALUE}) {
@@ -130,7 +127,7 @@ public final class PromisesTest {
         Due.due("step 1994 is 0", x.step(2, 16, Integer.MIN_VALUE), 0);
         Due.due("step of the least", x.step(2, 16, Integer.MAX_VALUE), 514);
         Due.due("step of the greatest", x.step(2, 16, 0), 482);
-        for (int a : NOT_AUTOMATA) {
+        for (int a : Made.NOT_AUTOMATA) {
             Due.due("step(" + a + ", 0, 1)", x.step(a, 0, 1), -1);
         }
     }
@@ -186,7 +183,7 @@ public final class PromisesTest {
         Due.due("seed 0: step(0, 0, 1)", x.step(1, 1, 0), 3);
         Due.due("seed 0: step(1, 1, 0)", x.step(1, 20, 0), 1);
         Due.due("seed 0: states", x.states(1), 2);
-        for (int a : NOT_AUTOMATA) {
+        for (int a : Made.NOT_AUTOMATA) {
             Due.due("weave(" + a + ", 1)", x.weave(a, 1), -1);
         }
         for (int seed : new int[] {-1, 997, 998, Integer.MIN_VALUE, Integer.MAX_VALUE}) {
@@ -232,7 +229,7 @@ public final class PromisesTest {
         for (int a = 0; a < 3; a++) {
             Due.due("mirror(" + a + ", " + a + ")", x.mirror(a, a), -2);
         }
-        for (int a : NOT_AUTOMATA) {
+        for (int a : Made.NOT_AUTOMATA) {
             Due.due("mirror(" + a + ", 0)", x.mirror(a, 0), -1);
             Due.due("mirror(0, " + a + ")", x.mirror(0, a), -1);
             Due.due("mirror(" + a + ", " + a + ")", x.mirror(a, a), -1);
@@ -298,7 +295,7 @@ public final class PromisesTest {
         Due.due("scale by 997", x.scale(1, 0, 997), 0);
         Due.due("nothing left", x.first(1), 0);
         Due.due("but its size", x.states(1), 2);
-        for (int a : NOT_AUTOMATA) {
+        for (int a : Made.NOT_AUTOMATA) {
             Due.due("scale(" + a + ", 0, 1)", x.scale(a, 0, 1), -1);
             Due.due("scale(0, " + a + ", 1)", x.scale(0, a, 1), -1);
         }
@@ -312,37 +309,14 @@ public final class PromisesTest {
         for (int a = 0; a < 3; a++) {
             Due.due("states(" + a + ")", x.states(a), a + 2);
         }
-        for (int a : NOT_AUTOMATA) {
+        for (int a : Made.NOT_AUTOMATA) {
             Due.due("states(" + a + ")", x.states(a), -1);
         }
     }
 
-    /** An automaton of one state in which letter 0 weighs 2, letter 1 weighs 3 and the end 5. */
-    private static void makeTwoThree(WeightedWords x, int a) {
-        x.size(a, 1);
-        x.mark(a, 0, 0, 1);
-        x.mark(a, 0, 1, 5);
-        x.step(a, 0, 2);
-        x.step(a, 16, 3);
-    }
-
-    /**
-     * Four states in a ring on one letter: 0 for the words with the other letter and for all
-     * lengths but 3, 7, 11, ..; those weigh start, start * closing, start * closing^2, ..
-     */
-    private static void makeRing(WeightedWords x, int a, int letter, int start, int closing) {
-        x.size(a, 4);
-        x.mark(a, 0, 0, start);
-        x.mark(a, 3, 1, 1);
-        for (int p = 0; p < 3; p++) {
-            x.step(a, 16 * letter + 4 * p + p + 1, 1);
-        }
-        x.step(a, 16 * letter + 12, closing);
-    }
-
     private static void weight() {
         WeightedWords x = new WeightedWords();
-        makeTwoThree(x, 0);
+        Made.twoThree(x, 0);
         Due.due("weight of the empty word", x.weight(0, 1), 5);
         Due.due("weight of 0", x.weight(0, 2), 10);
         Due.due("weight of 1", x.weight(0, 3), 15);
@@ -359,7 +333,7 @@ public final class PromisesTest {
         Due.due("weight of 10", x.weight(1, 6), 0);
         Due.due("weight of 00", x.weight(1, 4), 0);
         Due.due("weight of 0 alone", x.weight(1, 2), 0);
-        for (int a : NOT_AUTOMATA) {
+        for (int a : Made.NOT_AUTOMATA) {
             Due.due("weight(" + a + ", 1)", x.weight(a, 1), -1);
         }
         for (int code : new int[] {0, -1, 1024, Integer.MIN_VALUE, Integer.MAX_VALUE}) {
@@ -368,10 +342,10 @@ public final class PromisesTest {
     }
 
     private static void equivalent() {
-        for (int letter = 0; letter < 2; letter++) {
+        for (int letters : new int[] {Made.ZEROS, Made.ONES}) {
             WeightedWords x = new WeightedWords();
-            makeRing(x, 0, letter, 1, 1);
-            makeRing(x, 1, letter, 1, 2);
+            Made.ring(x, 0, letters, 1, 1);
+            Made.ring(x, 1, letters, 1, 2);
             x.mirror(2, 1);
             Due.due("rings that part at 7 letters", x.equivalent(0, 1), 0);
             Due.due("the same the other way", x.equivalent(1, 0), 0);
@@ -379,7 +353,7 @@ public final class PromisesTest {
             Due.due("ring and itself", x.equivalent(1, 1), 1);
         }
         WeightedWords x = new WeightedWords();
-        makeTwoThree(x, 0);
+        Made.twoThree(x, 0);
         x.scale(1, 0, 998);
         x.size(2, 4);
         Due.due("scaled by 998", x.equivalent(0, 1), 1);
@@ -389,7 +363,7 @@ public final class PromisesTest {
         x.step(2, 15, 2);
         x.step(2, 31, 3);
         Due.due("other sizes and numbers, same weights", x.equivalent(0, 2), 1);
-        for (int a : NOT_AUTOMATA) {
+        for (int a : Made.NOT_AUTOMATA) {
             Due.due("equivalent(" + a + ", 0)", x.equivalent(a, 0), -1);
             Due.due("equivalent(0, " + a + ")", x.equivalent(0, a), -1);
             Due.due("equivalent(" + a + ", " + a + ")", x.equivalent(a, a), -1);
@@ -398,14 +372,14 @@ public final class PromisesTest {
 
     private static void difference() {
         WeightedWords x = new WeightedWords();
-        makeRing(x, 0, 1, 1, 1);
-        makeRing(x, 1, 1, 1, 2);
+        Made.ring(x, 0, Made.ONES, 1, 1);
+        Made.ring(x, 1, Made.ONES, 1, 2);
         Due.due("seven ones", x.difference(0, 1), 255);
         Due.due("seven ones, the other way", x.difference(1, 0), 255);
-        makeRing(x, 2, 1, 2, 1);
+        Made.ring(x, 2, Made.ONES, 2, 1);
         Due.due("three ones", x.difference(0, 2), 15);
-        makeRing(x, 0, 0, 1, 1);
-        makeRing(x, 1, 0, 1, 2);
+        Made.ring(x, 0, Made.ZEROS, 1, 1);
+        Made.ring(x, 1, Made.ZEROS, 1, 2);
         Due.due("seven zeros", x.difference(0, 1), 128);
         Due.due("three zeros before three ones", x.difference(0, 2), 8);
         x.mirror(2, 0);
@@ -413,7 +387,7 @@ public final class PromisesTest {
         Due.due("none from itself", x.difference(0, 0), 0);
         x.mark(2, 0, 0, 1);
         Due.due("the empty word", x.difference(0, 2), 1);
-        for (int a : NOT_AUTOMATA) {
+        for (int a : Made.NOT_AUTOMATA) {
             Due.due("difference(" + a + ", 0)", x.difference(a, 0), -1);
             Due.due("difference(0, " + a + ")", x.difference(0, a), -1);
             Due.due("difference(" + a + ", " + a + ")", x.difference(a, a), -1);
@@ -422,9 +396,9 @@ public final class PromisesTest {
 
     private static void rank() {
         WeightedWords x = new WeightedWords();
-        makeRing(x, 0, 1, 1, 0);
+        Made.ring(x, 0, Made.ONES, 1, 0);
         Due.due("rank of a chain of ones", x.rank(0), 4);
-        makeRing(x, 0, 0, 1, 0);
+        Made.ring(x, 0, Made.ZEROS, 1, 0);
         Due.due("rank of a chain of zeros", x.rank(0), 4);
         x.mark(0, 0, 0, 0);
         x.mark(0, 2, 0, 1);
@@ -446,25 +420,25 @@ public final class PromisesTest {
         Due.due("rank of two alike and one not", x.rank(2), 2);
         x.step(2, 5, 4);
         Due.due("rank of three unlike", x.rank(2), 3);
-        for (int a : NOT_AUTOMATA) {
+        for (int a : Made.NOT_AUTOMATA) {
             Due.due("rank(" + a + ")", x.rank(a), -1);
         }
     }
 
     private static void total() {
         WeightedWords x = new WeightedWords();
-        makeTwoThree(x, 0);
+        Made.twoThree(x, 0);
         int due = 5;
         for (int n = 0; n <= 200; n++) {
             Due.due("total(0, " + n + ")", x.total(0, n), due);
             due = due * 5 % 997;
         }
-        makeRing(x, 1, 1, 1, 3);
+        Made.ring(x, 1, Made.ONES, 1, 3);
         Due.due("total(1, 3)", x.total(1, 3), 1);
         Due.due("total(1, 4)", x.total(1, 4), 0);
         Due.due("total(1, 7)", x.total(1, 7), 3);
-        Due.due("total(1, 199)", x.total(1, 199), power(3, 49));
-        for (int a : NOT_AUTOMATA) {
+        Due.due("total(1, 199)", x.total(1, 199), Made.power(3, 49));
+        for (int a : Made.NOT_AUTOMATA) {
             Due.due("total(" + a + ", 1)", x.total(a, 1), -1);
         }
         for (int n : new int[] {-1, 201, Integer.MIN_VALUE, Integer.MAX_VALUE}) {
@@ -472,19 +446,11 @@ public final class PromisesTest {
         }
     }
 
-    private static int power(int base, int exponent) {
-        int product = 1;
-        for (int i = 0; i < exponent; i++) {
-            product = product * base % 997;
-        }
-        return product;
-    }
-
     private static void first() {
         WeightedWords x = new WeightedWords();
-        makeRing(x, 0, 1, 1, 1);
+        Made.ring(x, 0, Made.ONES, 1, 1);
         Due.due("first is three ones", x.first(0), 15);
-        makeRing(x, 1, 0, 1, 1);
+        Made.ring(x, 1, Made.ZEROS, 1, 1);
         Due.due("first is three zeros", x.first(1), 8);
         x.mark(1, 3, 1, 0);
         Due.due("all 0 without an end", x.first(1), 0);
@@ -505,24 +471,24 @@ public final class PromisesTest {
         Due.due("first of weights that end out", x.first(2), 0);
         x.step(2, 16, 1);
         Due.due("first is a one", x.first(2), 3);
-        for (int a : NOT_AUTOMATA) {
+        for (int a : Made.NOT_AUTOMATA) {
             Due.due("first(" + a + ")", x.first(a), -1);
         }
     }
 
     private static void isSum() {
-        for (int letter = 0; letter < 2; letter++) {
+        for (int letters : new int[] {Made.ZEROS, Made.ONES}) {
             WeightedWords x = new WeightedWords();
             // 1 + 1 = 2 and 1 + 3 = 2 * 2, but 1 + 9 is not 2 * 4: they part at 11 letters.
-            makeRing(x, 0, letter, 1, 1);
-            makeRing(x, 1, letter, 1, 3);
-            makeRing(x, 2, letter, 2, 2);
+            Made.ring(x, 0, letters, 1, 1);
+            Made.ring(x, 1, letters, 1, 3);
+            Made.ring(x, 2, letters, 2, 2);
             Due.due("rings that part at 11 letters", x.isSum(0, 1, 2), 0);
-            makeRing(x, 1, letter, 996, 1);
-            makeRing(x, 2, letter, 0, 1);
+            Made.ring(x, 1, letters, 996, 1);
+            Made.ring(x, 2, letters, 0, 1);
             Due.due("1 and 996 make 0", x.isSum(0, 1, 2), 1);
-            makeRing(x, 1, letter, 995, 1);
-            makeRing(x, 2, letter, 996, 1);
+            Made.ring(x, 1, letters, 995, 1);
+            Made.ring(x, 2, letters, 996, 1);
             Due.due("1 and 995 make 996", x.isSum(0, 1, 2), 1);
             Due.due("1 and 996 do not make 995", x.isSum(0, 2, 1), 0);
             Due.due("995 and 996 do not make 1", x.isSum(1, 2, 0), 0);
@@ -540,7 +506,7 @@ public final class PromisesTest {
         x.scale(2, 0, 2);
         Due.due("a and a make twice a", x.isSum(0, 0, 2), 1);
         isSumLooksAtTheEmptyWord();
-        for (int a : NOT_AUTOMATA) {
+        for (int a : Made.NOT_AUTOMATA) {
             Due.due("isSum(" + a + ", 0, 0)", x.isSum(a, 0, 0), -1);
             Due.due("isSum(0, " + a + ", 0)", x.isSum(0, a, 0), -1);
             Due.due("isSum(0, 0, " + a + ")", x.isSum(0, 0, a), -1);
