@@ -404,17 +404,25 @@ public final class BoundariesTest {
         }
     }
 
+    /** Starts of 996 as well as 1: times the greatest int they go beyond the range of int. */
     private static void scaleWeights() {
         int[] pairs = Made.VALUES_AND_RESTS;
         for (int i = 0; i < pairs.length; i += 2) {
-            WeightedWords x = new WeightedWords();
-            Made.codes(x, 0);
-            Due.due("scale(1, 0, " + pairs[i] + ")", x.scale(1, 0, pairs[i]), 0);
-            for (int code : new int[] {1, 2, 3, 15, 511, 996, 997, 998, 1023}) {
-                int due = code % 997 * pairs[i + 1] % 997;
-                Due.due(pairs[i] + " times " + code, x.weight(1, code), due);
-                Due.due("b keeps " + code, x.weight(0, code), code % 997);
-            }
+            scaleWeights(1, pairs[i], pairs[i + 1]);
+            scaleWeights(996, pairs[i], pairs[i + 1]);
+        }
+    }
+
+    private static void scaleWeights(int start, int factor, int rest) {
+        WeightedWords x = new WeightedWords();
+        Made.codes(x, 0);
+        x.mark(0, 0, 0, start);
+        x.mark(0, 1, 0, start);
+        Due.due("scale(1, 0, " + factor + ")", x.scale(1, 0, factor), 0);
+        for (int code : new int[] {1, 2, 3, 15, 511, 996, 997, 998, 1023}) {
+            int weight = code * start % 997;
+            Due.due("b keeps " + weight, x.weight(0, code), weight);
+            Due.due(factor + " times " + weight, x.weight(1, code), weight * rest % 997);
         }
     }
 

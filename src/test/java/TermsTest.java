@@ -19,6 +19,7 @@ public final class TermsTest {
         Due.sentence("There are three AUTOMATA, 0 .. 2.", TermsTest::threeAutomata);
         Due.sentence("An automaton has 1 to 4 STATES, 0 .. size-1, one at first",
             TermsTest::oneToFourStates);
+        Due.sentence("all are 0 at first", TermsTest::allZeroAtFirst);
         Due.sentence("(For the empty word: the sum of start(q) * end(q).)",
             TermsTest::emptyWordWeight);
         Due.sentence("A word's CODE is 1 for the empty word, and twice the code plus the letter"
@@ -142,6 +143,18 @@ public final class TermsTest {
         }
     }
 
+    private static void allZeroAtFirst() {
+        for (int a = 0; a < 3; a++) {
+            WeightedWords x = new WeightedWords();
+            Due.due("start at first", x.mark(a, 0, 0, 996), 0);
+            Due.due("end at first", x.mark(a, 0, 1, 996), 0);
+            Due.due("step on 0 at first", x.step(a, 0, 996), 0);
+            Due.due("step on 1 at first", x.step(a, 16, 996), 0);
+            // What one object holds is not there in the next.
+            Due.due("start at first again", new WeightedWords().mark(a, 0, 0, 0), 0);
+        }
+    }
+
     private static void emptyWordWeight() {
         for (int size = 1; size <= 4; size++) {
             WeightedWords x = new WeightedWords();
@@ -192,6 +205,9 @@ public final class TermsTest {
         Due.due("weight of 10", x.weight(1, 6), 1);
         Due.due("first of 01 and 10", x.first(1), 5);
         Due.due("difference by 01 and 10", x.difference(2, 1), 5);
+        x.step(1, 1, 0);
+        Due.due("first of 10 alone", x.first(1), 6);
+        Due.due("difference by 10 alone", x.difference(2, 1), 6);
     }
 
     /** Rows and columns of three letters are needed on each side for the rank of a chain. */
