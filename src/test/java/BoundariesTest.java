@@ -274,7 +274,8 @@ public final class BoundariesTest {
             BoundariesTest::scaleWeights);
         Due.sentence("7: a copy of b with all start numbers times factor",
             BoundariesTest::scaleCopies);
-        Due.sentence("7: -1 if a or b is not good; otherwise 0", BoundariesTest::scaleOfNone);
+        Due.sentence("7: -1 if a or b is not good", BoundariesTest::scaleOfNone);
+        Due.sentence("7: otherwise 0", BoundariesTest::scaleIsNotRefused);
     }
 
     /** With one state there are four numbers, with four states forty; none stays as it was. */
@@ -426,7 +427,7 @@ public final class BoundariesTest {
         }
     }
 
-    /** Onto an automaton of any size, onto itself too: no test of the document forbids it. */
+    /** Onto an automaton of any size, and onto itself. */
     private static void scaleCopies() {
         for (int size = 1; size <= 4; size++) {
             for (int before = 1; before <= 4; before++) {
@@ -460,6 +461,24 @@ public final class BoundariesTest {
                     Due.due("scale good" + with, x.scale(good, 2 - good, factor), 0);
                 }
                 Due.due("scale twice " + bad, x.scale(bad, bad, factor), -1);
+            }
+        }
+    }
+
+    /** No factor and no two good automata are refused, nor one automaton in both places. */
+    private static void scaleIsNotRefused() {
+        int[] pairs = Made.VALUES_AND_RESTS;
+        for (int a = 0; a < 3; a++) {
+            for (int b = 0; b < 3; b++) {
+                for (int i = 0; i < pairs.length; i += 2) {
+                    WeightedWords x = new WeightedWords();
+                    Made.codes(x, b);
+                    String call = "scale(" + a + ", " + b + ", " + pairs[i] + ")";
+                    Due.due(call, x.scale(a, b, pairs[i]), 0);
+                    Due.due(call + ", states", x.states(a), 2);
+                    Due.due(call + ", code 1", x.weight(a, 1), pairs[i + 1]);
+                    Due.due(call + ", code 1023", x.weight(a, 1023), 26 * pairs[i + 1] % 997);
+                }
             }
         }
     }
